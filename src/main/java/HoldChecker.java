@@ -1054,7 +1054,10 @@ public final class HoldChecker {
             int state = NONE;
             int ifYes = NONE;
             int ifNo = NONE;
-            int told = sort == TEST ? 3 : sort == CALL ? 2 : 1;
+            int told = 1;
+            if (sort != LOOK) {
+                told = sort == TEST ? 3 : 2;
+            }
             for (int i = 0; i < told; i++) {
                 int named = known(stateNames, k * MOST_STATES, draft.kinds.states[k]);
                 if (named == NONE) {
@@ -1269,7 +1272,9 @@ public final class HoldChecker {
 
         void begin() {
             Arrays.fill(bits, 0);
-            Arrays.fill(bits, HOW, STATES, HELD_NOT);
+            for (int v = 0; v < MOST_VARIABLES; v++) {
+                bits[HOW + v] = HELD_NOT;
+            }
         }
 
         void copyFrom(Hold other) {
@@ -1389,14 +1394,14 @@ public final class HoldChecker {
                     letGo(a);
                     becomeLike(a, b);
                     makeOne(a, b);
-                    bits[HOW + b] = SHARED | bits[HOW + b] & HELD_NOT;
+                    bits[HOW + b] = SHARED | (bits[HOW + b] & HELD_NOT);
                     bits[HOW + a] = bits[HOW + b];
                     return true;
                 case LEND:
                     letGo(a);
                     becomeLike(a, b);
                     makeOne(a, b);
-                    bits[HOW + a] = TO_LOOK | bits[HOW + b] & HELD_NOT;
+                    bits[HOW + a] = TO_LOOK | (bits[HOW + b] & HELD_NOT);
                     bits[HOW + b] = lookForWhole(bits[HOW + b]);
                     return true;
                 case JOIN:
@@ -1415,7 +1420,7 @@ public final class HoldChecker {
         }
 
         private static int lookForWhole(int how) {
-            return (how & WHOLE) != 0 ? how & ~WHOLE | TO_LOOK : how;
+            return (how & WHOLE) != 0 ? (how & ~WHOLE) | TO_LOOK : how;
         }
 
         private void passJoin(int a, int b) {

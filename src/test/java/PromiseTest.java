@@ -155,6 +155,14 @@ public final class PromiseTest {
             due("fault " + what, x.fault(what), NONE);
         }
         due("fault 2", x.fault(2), NONE);
+        feed(x, "loop{");
+        x.load(5);
+        due("of the latest load", x.fault(0), 2);
+        x.load(9);
+        due("status 1 doesn't count", x.fault(1), 5);
+        x.load(0);
+        due("without one again", x.fault(0), 0);
+        due("place without one again", x.fault(1), NONE);
         faultsOfTokens();
         faultsOfNames();
         faultsOfNumbers();
@@ -185,6 +193,9 @@ public final class PromiseTest {
         faulty(2, "kind a b^");
         faulty(2, "kind a b  \n^");
         faulty(2, "kind a b;end a^;");
+        faulty(2, "kind a b;call ^;");
+        faulty(2, "kind a b;call a ^;");
+        faulty(2, "kind a b;call a ^new b b;");
         faulty(2, "kind a b;call a m b^;");
         faulty(2, "kind a b;test a m b b^;");
         faulty(2, "kind a b;look a m b ^b;");
@@ -332,6 +343,9 @@ public final class PromiseTest {
         gives(x, "by yes as before", x.comes(0, 3, 1, true), 1);
         gives(x, "by no", x.comes(0, 3, 1, false), 2);
         refuses(x, "so already by no", x.tell(0, 3, 1, false, 2), 4);
+        gives(x, "a test by yes alone", x.tell(0, 3, 1, true, 0), 1);
+        gives(x, "by no as before", x.comes(0, 3, 1, false), 2);
+        gives(x, "and back", x.tell(0, 3, 1, true, 1), 0);
         gives(x, "a test that can't be there", x.tell(0, 3, 2, false, 1), NONE);
         gives(x, "both become it", x.comes(0, 3, 2, true), 1);
         gives(x, "a test taken away by yes", x.tell(0, 3, 1, true, NONE), 1);
@@ -579,6 +593,12 @@ public final class PromiseTest {
         atIs(must, 2, 0, 4, 1, 2, 0);
         atIs(must, 2, 1, 12, 1, 1, 0);
         atIs(must, 5, 1, 1, 0, 0, 0);
+        HoldChecker parted = loaded("kind k a b c;test k t a b c;test k t c a a;var x k;var y k;"
+            + "new x;lend y x;if x t{maybe{}}else{loop{}}");
+        atIs(parted, 3, 0, 2, 2, 2, 2);
+        atIs(parted, 4, 0, 2, 4, 2, 2);
+        atIs(parted, 4, 1, 2, 4, 1, 1);
+        atIs(parted, 5, 1, 2, 6, 1, 1);
         HoldChecker how = file("loop{new a;}");
         atIs(how, 0, 0, 9, 1, 0, 0, 0);
         atIs(how, 1, 0, 9, 1, 0, 0, 1);
@@ -649,6 +669,8 @@ public final class PromiseTest {
         refuses(accepted, "accepted as it is", accepted.mend(), 5);
         HoldChecker hopeless = file("drop a;drop b;");
         refuses(hopeless, "none", hopeless.mend(), 5);
+        HoldChecker zero = file("drop a;");
+        gives(zero, "the very first", zero.mend(), 0);
         HoldChecker last = file("new a;drop a;drop a;");
         gives(last, "an earlier one that is as good", last.mend(), 1);
         gives(last, "status 0 behind it", last.without(2), 1);
@@ -946,14 +968,18 @@ public final class PromiseTest {
             FILE + "new a;drop a;",
             FILE_KIND + "var z file;drop z;new z;",
         };
-        for (String first : texts) {
-            for (String second : texts) {
-                HoldChecker x = loaded(first);
-                allAnswers(x);
-                feed(x, second);
-                x.load(second.length());
-                boolean same = allAnswers(x).equals(allAnswers(loaded(second)));
-                due("all of " + second + " behind " + first, same ? 1 : 0, 1);
+        for (String third : texts) {
+            String fresh = allAnswers(loaded(third));
+            for (String first : texts) {
+                for (String second : texts) {
+                    HoldChecker x = loaded(first);
+                    allAnswers(x);
+                    for (String next : new String[] {second, third}) {
+                        feed(x, next);
+                        x.load(next.length());
+                    }
+                    due("all of " + third + " behind others", allAnswers(x).equals(fresh) ? 1 : 0, 1);
+                }
             }
         }
     }

@@ -669,6 +669,8 @@ public final class PromiseTest {
         refuses(accepted, "accepted as it is", accepted.mend(), 5);
         HoldChecker hopeless = file("drop a;drop b;");
         refuses(hopeless, "none", hopeless.mend(), 5);
+        HoldChecker end = file("new a;do a begin;new b;do b begin;");
+        refuses(end, "the end can't be left out", end.mend(), 5);
         HoldChecker zero = file("drop a;");
         gives(zero, "the very first", zero.mend(), 0);
         HoldChecker last = file("new a;drop a;drop a;");

@@ -6,9 +6,14 @@ public final class ModelTest {
     private static int wrong = 0;
     private static long asked = 0;
 
+    /** What an object answers behind its 512th call is free. */
+    private static final int MOST_CALLS = 512;
+    /** About what a text and the questions about it take in mixed(). */
+    private static final int CALLS_OF_A_TEXT = 230;
+
     private final Random random;
-    private final HoldChecker x = new HoldChecker();
-    private final Model model = new Model();
+    private HoldChecker x = new HoldChecker();
+    private Model model = new Model();
     private String text = "";
     private int calls;
 
@@ -16,14 +21,23 @@ public final class ModelTest {
         random = new Random(seed);
     }
 
+    /** A call that has a STATUS. */
     private void same(String call, int got, int due) {
+        sameAnswer(call, got, due);
+        sameAnswer("status of " + call, x.status(), model.status());
+    }
+
+    private void sameAnswer(String call, int got, int due) {
         asked++;
         calls++;
-        if (got != due || x.status() != model.status()) {
+        if (calls == MOST_CALLS + 1) {
+            wrong++;
+            System.out.println("asked too often of\n" + text);
+        }
+        if (got != due) {
             wrong++;
             if (wrong <= 20) {
-                System.out.println(call + " answered " + got + " (status " + x.status() + "), due is " + due
-                    + " (status " + model.status() + ") of\n" + text);
+                System.out.println(call + " answered " + got + ", due is " + due + " of\n" + text);
             }
         }
     }
@@ -39,13 +53,13 @@ public final class ModelTest {
             for (int j = 0; j < 20; j++) {
                 ints[j / 4] = ints[j / 4] << 8 | padded.charAt(i + j) & 255;
             }
-            same("feed", x.feed(ints[0], ints[1], ints[2], ints[3], ints[4]),
+            sameAnswer("feed", x.feed(ints[0], ints[1], ints[2], ints[3], ints[4]),
                 model.feed(ints[0], ints[1], ints[2], ints[3], ints[4]));
         }
         int n = made.length() - less;
         same("load " + n, x.load(n), model.load(n));
-        same("fault 0", x.fault(0), model.fault(0));
-        same("fault 1", x.fault(1), model.fault(1));
+        sameAnswer("fault 0", x.fault(0), model.fault(0));
+        sameAnswer("fault 1", x.fault(1), model.fault(1));
     }
 
     /** A number about a range, sometimes outside it. */
@@ -54,8 +68,7 @@ public final class ModelTest {
     }
 
     private void askKinds() {
-        int k = random.nextInt(6) == 0 ? about(4) : random.nextInt(Math.max(1, model.many(0)));
-        x.many(0);
+        int k = random.nextInt(6) == 0 ? about(4) : random.nextInt(Math.max(1, countOf(0)));
         int m = about(4);
         int s = about(4);
         int o = about(5);
@@ -74,8 +87,7 @@ public final class ModelTest {
     }
 
     private void tell() {
-        int k = random.nextInt(Math.max(1, model.many(0)));
-        x.many(0);
+        int k = random.nextInt(Math.max(1, countOf(0)));
         int m = about(4);
         int s = about(4);
         int to = about(4);
@@ -106,38 +118,55 @@ public final class ModelTest {
         ToIntBiFunction<Integer, Integer> due, int mostWhat) {
         for (int i = -1; i <= most; i++) {
             for (int what = 0; what <= mostWhat; what++) {
+                renewIfDue();
                 same(name + " " + i + " " + what, got.applyAsInt(i, what), due.applyAsInt(i, what));
             }
         }
     }
 
+    /** Another object with the same text, ahead of the old one has been asked too often. */
+    private void renewIfDue() {
+        if (calls > MOST_CALLS - 4) {
+            x = new HoldChecker();
+            model = new Model();
+            calls = 0;
+            feedAndLoad(text, 0);
+        }
+    }
+
+    private int countOf(int what) {
+        int due = model.many(what);
+        same("many " + what, x.many(what), due);
+        return due;
+    }
+
     /** Everything that can be asked of a program, whatever number of calls that takes. */
     private void askEverything(int statements) {
-        askAll("statement", statements, x::statement, model::statement, 6);
+        askAll("statement", statements, (i, w) -> x.statement(i, w), (i, w) -> model.statement(i, w), 6);
         askAll("check", 0, (i, w) -> x.check(w), (i, w) -> model.check(w), 4);
         askAll("paths", 0, (i, w) -> x.paths(w), (i, w) -> model.paths(w), 6);
         askAll("path", statements + 3, (i, w) -> x.path(i), (i, w) -> model.path(i), 0);
         askAll("never", statements, (i, w) -> x.never(i), (i, w) -> model.never(i), 0);
         askAll("left", 4, (i, w) -> x.left(i), (i, w) -> model.left(i), 0);
         askAll("without", statements, (i, w) -> x.without(i), (i, w) -> model.without(i), 0);
-        askAll("run", 8, x::run, model::run, 3);
+        askAll("run", 8, (i, w) -> x.run(i, w), (i, w) -> model.run(i, w), 3);
         for (int v = 0; v < 6; v++) {
             int its = v;
             askAll("at, " + v, statements + 1, (i, w) -> x.at(i, its, w), (i, w) -> model.at(i, its, w), 4);
             askAll("truly, " + v, statements + 1, (i, w) -> x.truly(i, its, w),
                 (i, w) -> model.truly(i, its, w), 3);
         }
+        renewIfDue();
         same("mend", x.mend(), model.mend());
     }
 
     private void mixed() {
         Texts texts = new Texts(random);
-        for (int round = 0; calls < 400 && round < 12; round++) {
+        while (calls <= MOST_CALLS - CALLS_OF_A_TEXT) {
             boolean spoil = random.nextInt(4) == 0;
             feedAndLoad(spoil ? texts.spoiled() : texts.good(), random.nextInt(10) == 0 ? random.nextInt(4) - 1 : 0);
-            int statements = model.many(2);
-            x.many(2);
-            for (int i = 0; i < 6; i++) {
+            int statements = countOf(2);
+            for (int i = 0; i < 3; i++) {
                 askKinds();
                 askProgram(statements);
                 if (random.nextInt(2) == 0) {
@@ -152,9 +181,7 @@ public final class ModelTest {
 
     private void thorough() {
         feedAndLoad(new Texts(random).good(), 0);
-        int statements = model.many(2);
-        x.many(2);
-        askEverything(statements);
+        askEverything(countOf(2));
     }
 
     private void faults() {
@@ -170,6 +197,7 @@ public final class ModelTest {
         for (long seed = from; seed < from + 400L * rounds; seed++) {
             new ModelTest(3 * seed).thorough();
             new ModelTest(3 * seed + 1).mixed();
+            new ModelTest(-3 * seed - 1).mixed();
             for (int i = 0; i < 5; i++) {
                 new ModelTest(1000003 * (3 * seed + 2) + i).faults();
             }

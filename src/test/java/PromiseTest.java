@@ -1,66 +1,8 @@
 import java.math.BigInteger;
 
 /** Promise by promise: ordinary inputs, the edges that the document names, and wrong inputs. */
-public final class PromiseTest {
-    private static final int NONE = HoldChecker.NONE;
-    private static final String FILE_KIND =
-        "kind file shut open bad;end file shut;call file begin shut open;call file close open shut;"
-        + "call file read open open;test file more open open shut;look file size shut;look file size open;";
-    private static final String FILE = FILE_KIND + "var a file;var b file;var c file;";
+public final class PromiseTest extends Asking {
     private static final int[] EXTREMES = {Integer.MIN_VALUE, -2, -1, 7, 41, 1000, Integer.MAX_VALUE};
-
-    private static int wrong = 0;
-    private static int asked = 0;
-    private static String promise = "";
-
-    private static void due(String what, long got, long want) {
-        asked++;
-        if (got != want) {
-            wrong++;
-            System.out.println(promise + ": " + what + " answered " + got + ", due is " + want);
-        }
-    }
-
-    /** An answer that comes with STATUS 0. */
-    private static void gives(HoldChecker x, String what, int got, int want) {
-        due(what, got, want);
-        due(what + ", status", x.status(), 0);
-    }
-
-    private static void refuses(HoldChecker x, String what, int got, int status) {
-        due(what, got, NONE);
-        due(what + ", status", x.status(), status);
-    }
-
-    private static void feed(HoldChecker x, String text) {
-        StringBuilder padded = new StringBuilder(text);
-        while (padded.length() % 20 != 0) {
-            padded.append(' ');
-        }
-        for (int i = 0; i < padded.length(); i += 20) {
-            int[] four = new int[5];
-            for (int j = 0; j < 20; j++) {
-                four[j / 4] = four[j / 4] << 8 | padded.charAt(i + j) & 255;
-            }
-            x.feed(four[0], four[1], four[2], four[3], four[4]);
-        }
-    }
-
-    private static HoldChecker loaded(String text) {
-        HoldChecker x = new HoldChecker();
-        feed(x, text);
-        x.load(text.length());
-        due("status of load of " + text, x.status(), 0);
-        return x;
-    }
-
-    private static HoldChecker file(String program) {
-        return loaded(FILE + program);
-    }
-
-    private static String times(int count, String text) {
-        return text.repeat(count);
-    }
 
     private static void promise1() {
         HoldChecker x = new HoldChecker();
@@ -129,17 +71,6 @@ public final class PromiseTest {
         gives(x, "its kinds, too", x.kind(0, 0), 1);
         gives(x, "load of nothing", x.load(0), 0);
         gives(x, "nothing is there then", x.many(0), 0);
-    }
-
-    /** The mark ^ stands ahead of the TOKEN that is at fault. */
-    private static void faulty(int sort, String marked) {
-        int place = marked.indexOf('^');
-        String text = marked.replace("^", "");
-        HoldChecker x = new HoldChecker();
-        feed(x, text);
-        refuses(x, "load of " + marked, x.load(text.length()), 9);
-        due("fault of " + marked, x.fault(0), sort);
-        due("its place in " + marked, x.fault(1), place);
     }
 
     private static void promise5() {
@@ -436,12 +367,6 @@ public final class PromiseTest {
         }
     }
 
-    private static void statementIs(HoldChecker x, int i, int... due) {
-        for (int what = 0; what < due.length; what++) {
-            gives(x, "statement " + i + " " + what, x.statement(i, what), due[what]);
-        }
-    }
-
     private static void promise15() {
         HoldChecker x = file("new a;move b a;share c b;lend a b;join b a;drop c;do b size;");
         statementIs(x, 0, 0, 0, NONE, NONE, 1, NONE, 0);
@@ -522,13 +447,6 @@ public final class PromiseTest {
         gives(z, "the least", z.check(1), 1);
         gives(z, "wrong places, the end too", z.check(3), 3);
         gives(z, "all can come", z.check(4), 5);
-    }
-
-    /** HOW, STATES, MAY, MUST of a VARIABLE at a PLACE. */
-    private static void atIs(HoldChecker x, int place, int v, int... due) {
-        for (int what = 0; what < due.length; what++) {
-            gives(x, "at " + place + " " + v + " " + what, x.at(place, v, what), due[what]);
-        }
     }
 
     private static void promise18() {
@@ -678,38 +596,6 @@ public final class PromiseTest {
         gives(last, "status 0 behind it", last.without(2), 1);
     }
 
-    private static void pathsAre(HoldChecker x, int... due) {
-        for (int what = 0; what < due.length; what++) {
-            if (due[what] == NONE) {
-                refuses(x, "paths " + what, x.paths(what), 5);
-            } else {
-                gives(x, "paths " + what, x.paths(what), due[what]);
-            }
-        }
-    }
-
-    /**
-     * Six things that come to either of two STATES, at a choice for each: 6 CONFIGURATIONS till all are
-     * new, 1, 2, 4 .. 32 ahead of the choices and as many within them, 64 behind: 196. A loop{} behind
-     * the first i choices, loops[i] times, adds 2 to the power of i each time.
-     */
-    private static String manyText(int... loops) {
-        StringBuilder text = new StringBuilder("kind k a b;end k a b;call k m a b;");
-        for (char v = 'a'; v <= 'f'; v++) {
-            text.append("var ").append(v).append(" k;");
-        }
-        for (char v = 'a'; v <= 'f'; v++) {
-            text.append("new ").append(v).append(";");
-        }
-        for (int i = 0; i <= 6; i++) {
-            text.append(times(i < loops.length ? loops[i] : 0, "loop{}"));
-            if (i < 6) {
-                text.append("maybe{do ").append((char) ('a' + i)).append(" m;}");
-            }
-        }
-        return text.toString();
-    }
-
     private static HoldChecker manyWays(int... loops) {
         return loaded(manyText(loops));
     }
@@ -783,12 +669,6 @@ public final class PromiseTest {
         }
         HoldChecker fine = file("new a;");
         refuses(fine, "none is wrong", fine.path(0), 5);
-    }
-
-    private static void trulyIs(HoldChecker x, int place, int v, int... due) {
-        for (int what = 0; what < due.length; what++) {
-            gives(x, "truly " + place + " " + v + " " + what, x.truly(place, v, what), due[what]);
-        }
     }
 
     private static void promise23() {
@@ -936,29 +816,6 @@ public final class PromiseTest {
         refuses(x, "a seed far above", x.runs(Integer.MAX_VALUE, 50, 1), 1);
     }
 
-    /** Everything that an object can be asked but the tape, in one text. */
-    private static String allAnswers(HoldChecker x) {
-        StringBuilder all = new StringBuilder();
-        for (int i = -1; i <= 12; i++) {
-            for (int what = 0; what <= 6; what++) {
-                int[] got = {x.many(what), x.kind(i, what), x.method(0, i, what), x.toEnd(what, i), x.rows(what, i, true),
-                    x.statement(i, what), x.check(what), x.paths(what), x.run(i, what), x.runs(0, 9, what)};
-                for (int one : got) {
-                    all.append(one).append(' ');
-                }
-                for (int v = 0; v < 6; v++) {
-                    all.append(x.at(i, v, what)).append(' ').append(x.truly(i, v, what)).append(' ');
-                }
-            }
-            int[] got = {x.variable(i), x.without(i), x.mend(), x.path(i), x.left(i), x.never(i), x.alike(0, 0, i)};
-            for (int one : got) {
-                all.append(one).append(' ');
-            }
-            all.append('\n');
-        }
-        return all.toString();
-    }
-
     /** Nothing stays of a program when another one is loaded. */
     private static void reloads() {
         String[] texts = {
@@ -971,51 +828,59 @@ public final class PromiseTest {
             FILE_KIND + "var z file;drop z;new z;",
         };
         for (String third : texts) {
-            String fresh = allAnswers(loaded(third));
             for (String first : texts) {
                 for (String second : texts) {
-                    HoldChecker x = loaded(first);
-                    allAnswers(x);
-                    for (String next : new String[] {second, third}) {
-                        feed(x, next);
-                        x.load(next.length());
-                    }
-                    due("all of " + third + " behind others", allAnswers(x).equals(fresh) ? 1 : 0, 1);
+                    sameAnswers(third + " behind others", () -> loadedAll(first, second, third), () -> loaded(third));
                 }
             }
         }
     }
 
+    /** Texts one behind another, the first of them asked for all that may be kept. */
+    private static HoldChecker loadedAll(String first, String second, String third) {
+        HoldChecker x = loaded(first);
+        x.mend();
+        x.without(0);
+        x.paths(0);
+        x.run(0, 0);
+        x.alike(0, 0, 0);
+        load(x, second);
+        load(x, third);
+        return x;
+    }
+
     /** No call may throw, whatever it is given; ahead of a load and behind one. */
     private static void extremes() {
-        HoldChecker[] all = {new HoldChecker(), file("new a;loop{maybe{share b a;}}drop a;")};
-        for (HoldChecker x : all) {
-            for (int i : EXTREMES) {
-                for (int j : EXTREMES) {
-                    due("kind", x.kind(i, j), NONE);
-                    due("method", x.method(i, j, 0), NONE);
-                    due("comes", x.comes(i, 0, j, true), NONE);
-                    due("tell", x.tell(i, j, 0, true, 0), NONE);
-                    due("toEnd", x.toEnd(i, j), NONE);
-                    due("towards", x.towards(i, j), NONE);
-                    due("alike", x.alike(i, j, i), NONE);
-                    due("rows", x.rows(i, j, false), NONE);
-                    due("statement", x.statement(i, j), NONE);
-                    due("at", x.at(i, j, 0), NONE);
-                    due("truly", x.truly(i, j, 0), NONE);
-                    due("run", x.run(i, j), NONE);
-                    due("runs", x.runs(i, j, i), NONE);
-                }
-                due("many", x.many(i), NONE);
-                due("variable", x.variable(i), NONE);
-                due("check", x.check(i), NONE);
-                due("without", x.without(i), NONE);
-                due("paths", x.paths(i), NONE);
-                due("path", x.path(i), NONE);
-                due("left", x.left(i), NONE);
-                due("fault", x.fault(i), NONE);
-            }
+        for (int i : EXTREMES) {
+            extremes(new HoldChecker(), i);
+            extremes(file("new a;loop{maybe{share b a;}}drop a;"), i);
         }
+    }
+
+    private static void extremes(HoldChecker x, int i) {
+        for (int j : EXTREMES) {
+            due("kind", x.kind(i, j), NONE);
+            due("method", x.method(i, j, 0), NONE);
+            due("comes", x.comes(i, 0, j, true), NONE);
+            due("tell", x.tell(i, j, 0, true, 0), NONE);
+            due("toEnd", x.toEnd(i, j), NONE);
+            due("towards", x.towards(i, j), NONE);
+            due("alike", x.alike(i, j, i), NONE);
+            due("rows", x.rows(i, j, false), NONE);
+            due("statement", x.statement(i, j), NONE);
+            due("at", x.at(i, j, 0), NONE);
+            due("truly", x.truly(i, j, 0), NONE);
+            due("run", x.run(i, j), NONE);
+            due("runs", x.runs(i, j, i), NONE);
+        }
+        due("many", x.many(i), NONE);
+        due("variable", x.variable(i), NONE);
+        due("check", x.check(i), NONE);
+        due("without", x.without(i), NONE);
+        due("paths", x.paths(i), NONE);
+        due("path", x.path(i), NONE);
+        due("left", x.left(i), NONE);
+        due("fault", x.fault(i), NONE);
     }
 
     public static void main(String[] args) {
@@ -1030,10 +895,9 @@ public final class PromiseTest {
             PromiseTest::extremes,
         };
         for (int i = 0; i < promises.length; i++) {
-            promise = i < 27 ? "promise " + (i + 1) : i == 27 ? "reloads" : "extremes";
+            about(i < 27 ? "promise " + (i + 1) : i == 27 ? "reloads" : "extremes");
             promises[i].run();
         }
-        System.out.println("promises: " + asked + " answers, " + wrong + " wrong");
-        System.exit(wrong == 0 ? 0 : 1);
+        finish("promises");
     }
 }

@@ -243,6 +243,8 @@ public final class CheckEdgesTest extends Asking {
         HoldChecker may = file("new a;share b a;maybe{lend c a;}join a b;");
         atIs(may, 5, 0, 12, 1, 4, 0);
         atIs(may, 5, 1, 1, 0, 0, 0);
+        HoldChecker others = file("new c;share b c;maybe{lend a c;}join c b;");
+        atIs(others, 5, 2, 12, 1, 1, 0);
         HoldChecker none = file("join a b;");
         atIs(none, 1, 0, 8, 0, 0, 0);
         HoldChecker other = file("new a;new b;join a b;");
@@ -262,6 +264,12 @@ public final class CheckEdgesTest extends Asking {
         HoldChecker look = loaded(THREE + "new a;maybe{do a m;}do a l;");
         atIs(look, 3, 0, 8, 3, 0, 0, 4);
         atIs(look, 4, 0, 8, 1, 0, 0, 0);
+        HoldChecker several = loaded(THREE.replace("call k m p q;", "call k m p q;call k m q r;")
+            + "new a;share b a;maybe{do a m;}maybe{share c a;}do a m;");
+        atIs(several, 6, 0, 4, 3, 6, 2, 0);
+        atIs(several, 7, 0, 4, 6, 6, 2, 0);
+        atIs(several, 7, 1, 4, 6, 5, 1, 0);
+        atIs(several, 7, 2, 5, 7, 3, 0, 0);
         HoldChecker held = loaded(THREE + "maybe{new a;}do a m;");
         atIs(held, 3, 0, 9, 2, 0, 0, 0);
         sentence("of those that MUST be one with it, the same; of those that MAY alone: what they had, and what comes of"
@@ -280,6 +288,10 @@ public final class CheckEdgesTest extends Asking {
         atIs(mayBoth, 4, 1, 5, 3, 1, 0, 0);
         atIs(mayBoth, 5, 1, 5, 5, 1, 0, 0);
         atIs(mayBoth, 4, 0, 12, 2, 2, 0, 0);
+        HoldChecker last = loaded(THREE + "new c;maybe{share b c;}do c m;");
+        atIs(last, 4, 2, 12, 2, 2, 0, 0);
+        atIs(last, 4, 1, 5, 3, 4, 0, 0);
+        atIs(last, 4, 0, 1, 0, 0, 0, 0);
         HoldChecker apart = loaded(THREE + "new a;new b;do a m;");
         atIs(apart, 3, 1, 8, 1, 0, 0, 0);
         sentence("Where nothing comes of VAR, nothing goes on.");

@@ -227,7 +227,15 @@ public final class KindEdgesTest extends Asking {
         gives(x, "no path is wrong", x.paths(1), 0);
         gives(x, "left shut", x.left(0), 1);
         gives(x, "without the last one", x.without(2), 0);
-        gives(x, "told", x.tell(0, 1, 1, true, 2), 0);
+        gives(x, "without begin", x.without(1), 0);
+        refuses(x, "nothing to mend", x.mend(), 5);
+        gives(x, "told of begin", x.tell(0, 0, 0, true, 0), 1);
+        gives(x, "refused", x.check(1), 2);
+        gives(x, "accepted without the last one", x.without(2), 1);
+        gives(x, "which mends it", x.mend(), 2);
+        gives(x, "told back", x.tell(0, 0, 0, true, 1), 0);
+        gives(x, "as before without it", x.without(2), 0);
+        gives(x, "told of close", x.tell(0, 1, 1, true, 2), 0);
         gives(x, "bad can come", x.kind(0, 4), 7);
         gives(x, "no end comes of it", x.kind(0, 5), 4);
         gives(x, "from open by the test", x.towards(0, 1), 3);
@@ -257,6 +265,23 @@ public final class KindEdgesTest extends Asking {
         }, () -> file("new a;do a begin;do a close;"));
     }
 
+    /** A KIND with all six METHODS does nothing that a METHOD of the next KIND does. */
+    private static void ownMethods() {
+        sentence("A METHOD is a CALL, a TEST, or a LOOK (by its first LINE), of one KIND");
+        String six = "";
+        for (char m = 'm'; m <= 'r'; m++) {
+            six += "look k " + m + " a;look k " + m + " b;";
+        }
+        HoldChecker x = loaded("kind k a b c;end k c;" + six + "kind l a b c;call l m a c;call l m b b;");
+        gives(x, "no state comes", x.kind(0, 4), 1);
+        gives(x, "no end comes", x.kind(0, 5), 1);
+        refuses(x, "none to the end", x.toEnd(0, 0), 5);
+        refuses(x, "no way", x.towards(0, 0), 5);
+        gives(x, "alike", x.alike(0, 0, 1), 1);
+        gives(x, "rows", x.rows(0, 2, false), 36);
+        gives(x, "the next one's", x.kind(1, 4), 5);
+    }
+
     private static void toEnds() {
         sentence("The fewest METHODS (CALLS, TESTS) from a STATE to an end (0: it is one) (2; 5).");
         HoldChecker x = loaded("kind k a b c d e f;end k f;call k m a b;call k m b c;call k m c d;call k m d e;call k m e f;"
@@ -266,6 +291,10 @@ public final class KindEdgesTest extends Asking {
         }
         x.tell(0, 0, 1, true, 4);
         gives(x, "a shorter way", x.toEnd(0, 0), 3);
+        HoldChecker byYes = loaded("kind k a b c;end k c;test k t a b a;test k t b c b;");
+        gives(byYes, "by yes alone, twice", byYes.toEnd(0, 0), 2);
+        HoldChecker byNo = loaded("kind k a b c;end k c;test k t a a b;test k t b b c;");
+        gives(byNo, "by no alone, twice", byNo.toEnd(0, 0), 2);
         HoldChecker y = loaded("kind k a b c d e f;end k d;test k t a b c;call k m b d;test k t c c d;look k l d;call k m e e;"
             + "look k l f;kind n a;kind p a;end p a;");
         gives(y, "by yes or by no, then one more", y.toEnd(0, 0), 2);
@@ -425,6 +454,7 @@ public final class KindEdgesTest extends Asking {
         tellsAnother();
         tellsRefused();
         tellsForAll();
+        ownMethods();
         toEnds();
         towardsEnds();
         likes();

@@ -121,6 +121,8 @@ public final class PathEdgesTest extends Asking {
         pathsAre(file("new a;maybe{do a begin;}else{maybe{new b;}else{new c;}}"), 9, 1, 4, 5, 0, 2, 2);
         pathsAre(file("new a;drop a;new b;drop b;"), 5, 0, NONE, NONE, 0, 1, 1);
         pathsAre(file("new a;share b a;lend c a;"), 4, 0, NONE, NONE, 0, 1, 1);
+        pathsAre(file("new a;share b a;new c;"), 4, 0, NONE, NONE, 0, 2, 1);
+        pathsAre(file("new c;share b c;new a;"), 4, 0, NONE, NONE, 0, 2, 1);
         pathsAre(file("new a;new b;new c;drop a;drop b;drop c;"), 7, 0, NONE, NONE, 0, 3, 1);
         pathsAre(file("new a;new b;drop c;"), 3, 1, 3, 1, 0, 2, 0);
         pathsAre(file(""), 1, 0, NONE, NONE, 0, 0, 1);

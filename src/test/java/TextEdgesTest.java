@@ -5,6 +5,7 @@ public final class TextEdgesTest extends Asking {
         "if", "else", "while", "maybe", "loop",
     };
     private static final String TWO = "kind a b;kind c d;var x a;var y a;var z c;";
+    private static final String REFUSED = FILE + "new a;do a begin;maybe{share b a;}drop a;loop{}new c;do c close;";
     private static final int BLANKS = 0x20202020;
 
     private static HoldChecker fed(int count) {
@@ -543,6 +544,12 @@ public final class TextEdgesTest extends Asking {
         HoldChecker none = new HoldChecker();
         gives(none, "nothing was fed", none.load(0), 0);
         isFine(times(40, "loop{}"), 40);
+        String[] texts = {REFUSED, "", moreConfigurations(), "loop{}", FILE + "do a size;new b;drop c;do c close;"};
+        for (String last : texts) {
+            for (String first : texts) {
+                sameAnswers("behind another text", () -> askedThen(first, last), () -> loaded(last));
+            }
+        }
         sentence("(1: n below 0, above what the tape has; 9)");
         HoldChecker twenty = fed(1);
         int[] wrong = {-1, LEAST, 21, 900, 901, MOST};
@@ -558,6 +565,17 @@ public final class TextEdgesTest extends Asking {
         refuses(again, "a fault", again.load(5), 9);
         refuses(again, "the tape is empty then, too", again.load(1), 1);
         gives(again, "the program stays", again.many(2), 2);
+    }
+
+    /** Nothing that was worked out for the first text is left behind the second one. */
+    private static HoldChecker askedThen(String first, String last) {
+        HoldChecker x = loaded(first);
+        x.without(0);
+        x.mend();
+        x.paths(0);
+        x.run(0, 0);
+        load(x, last);
+        return x;
     }
 
     private static void faults() {

@@ -41,6 +41,21 @@ public final class StatementEdgesTest extends Asking {
         holds(x, place, v, 1, 0, 0);
     }
 
+    private static void waysOfHolding() {
+        sentence("A VARIABLE HOLDS a thing of its KIND, or none: WHOLE (it alone does), SHARED, or to LOOK.");
+        HoldChecker x = file("new a;move b a;share a b;lend c a;join a b;drop a;");
+        int[][] ways = {{1, 1, 1}, {8, 1, 1}, {1, 8, 1}, {4, 4, 1}, {4, 4, 2}, {4, 1, 2}, {1, 1, 2}};
+        for (int place = 0; place < ways.length; place++) {
+            for (int v = 0; v < 3; v++) {
+                atIs(x, place, v, ways[place][v]);
+                trulyIs(x, place, v, ways[place][v]);
+            }
+        }
+        HoldChecker kinds = loaded("kind k s;kind l s t;end l t;call l m s t;end k s;var a k;var b l;new a;new b;do b m;");
+        holds(kinds, 3, 0, 8, 1, 0);
+        holds(kinds, 3, 1, 8, 2, 0);
+    }
+
     private static void news() {
         sentence("new: VAR must hold none; it HOLDS a new thing WHOLE, in the FIRST STATE.");
         goesWrong("new a;new a;", 1, 1);
@@ -354,6 +369,7 @@ public final class StatementEdgesTest extends Asking {
     }
 
     public static void main(String[] args) {
+        waysOfHolding();
         news();
         moves();
         shares();

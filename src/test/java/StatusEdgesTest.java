@@ -117,6 +117,12 @@ public final class StatusEdgesTest extends Asking {
         new Call("mend", 5, x -> x.mend()),
     };
 
+    private static void constants() {
+        sentence("NONE = -1: None.");
+        due("NONE", HoldChecker.NONE, -1);
+        due("a call that is refused", new HoldChecker().kind(0, 0), -1);
+    }
+
     private static void newObject() {
         sentence("No KINDS, VARIABLES, STATEMENTS; STATUS 0.");
         due("status", new HoldChecker().status(), 0);
@@ -297,6 +303,7 @@ public final class StatusEdgesTest extends Asking {
 
     public static void main(String[] args) {
         mostCalls();
+        constants();
         newObject();
         statusOfLatest();
         statusIs();

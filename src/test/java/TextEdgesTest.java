@@ -111,6 +111,19 @@ public final class TextEdgesTest extends Asking {
         }
     }
 
+    private static void anyNumberOfTimes() {
+        sentence("({ } any number of times, [ ] once or not)");
+        for (int times = 0; times <= 5; times++) {
+            isFine("kind k s" + " t u v w x".substring(0, 2 * times) + ";", 0);
+            isFine("kind k s;end k s" + times(times, " s") + ";" + times(times, "end k s;"), 0);
+            isFine(times(times, "loop{}"), times);
+            isFine("loop{" + times(times, "maybe{}") + "}", times + 1);
+        }
+        isFine("maybe{}", 1);
+        isFine("maybe{}else{}", 1);
+        faulty(2, "maybe{}else{}^else{}");
+    }
+
     private static void lineForms() {
         sentence("LINE: kind NAME STATE {STATE} ;");
         isFine("kind a b;", 0);
@@ -618,6 +631,7 @@ public final class TextEdgesTest extends Asking {
         wordLengths();
         signs();
         linesThenStatements();
+        anyNumberOfTimes();
         lineForms();
         reservedWords();
         mostKinds();
